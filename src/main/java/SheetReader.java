@@ -1546,16 +1546,18 @@ public final class SheetReader {
             if (what == 0) {
                 return step;
             }
-            return what == 1 ? ahead : judgedElse(form, ahead == 0 ? Integer.MAX_VALUE : darks[order[ahead - 1]]);
+            return what == 1 ? ahead : judgedElse(form, ahead);
         }
 
-        /** Boxes that are ticked and less dark than told, or as dark and not ticked. */
-        private int judgedElse(Form form, int least) {
+        /** Boxes that are ticked and not among so many most dark ones, or among them and not ticked. */
+        private int judgedElse(Form form, int ahead) {
             int n = 0;
             for (int q = 0; q < form.questions; q++) {
                 for (int b = 0; b < form.boxesOf[q]; b++) {
                     boolean ticked = (answers[q] >> b & 1) == 1;
-                    if (ticked != (darks[form.firstOf[q] + b] >= least)) {
+                    // a step parts both sides, so that the last one ahead tells which are
+                    boolean isAhead = ahead > 0 && darks[form.firstOf[q] + b] >= darks[order[ahead - 1]];
+                    if (ticked != isAhead) {
                         n++;
                     }
                 }
