@@ -1135,6 +1135,12 @@ public final class PromiseTest {
     r.fill(0, 1, 8, 7, 1);
     // of 64 dots 57 of 1 and 2 to 8 once each
     due(44, "a long tail", r.level(), 4);
+    // 38 of 0, 3 of 1, 39 of 2: by 1 3078 squared by 1596, 5936 14/100, by 2 3081 squared by 1599, 5936 56/100
+    r.blank(10, 8);
+    r.fill(0, 0, 10, 4, 2);
+    r.fill(9, 3, 1, 1, 1);
+    r.fill(0, 4, 2, 1, 1);
+    due(44, "greater by less than 1", r.level(), 2);
     // by more than 9223372036854775807 apart: 800 of 0, 400 of 8, 400 of 9
     r.blank(40, 40);
     r.fill(0, 0, 40, 10, 8);
