@@ -1176,7 +1176,8 @@ public final class ModelTest {
 
     private boolean right(Sheet sheet, int q) {
       Verdict of = sheet.verdicts.get(q);
-      return !of.doubtful && !of.doubled && of.answer == questions.get(q).key;
+      int key = questions.get(q).key;
+      return key != 0 && !of.doubtful && !of.doubled && of.answer == key;
     }
 
     public int chosen(int q, int b) {

@@ -1031,7 +1031,7 @@ public final class PromiseTest {
     laySheet(3, 0);
     int[][] rows = {{0, 0, 2}, {0, 1, 3}, {0, 2, 0}, {0, -1, 2}, {1, 0, 2}, {1, 1, 2}, {1, 2, 3}, {0, 3, -1}, {0, -2, -1}, {2, 0, -1}, {2, -1, -1}, {-1, 0, -1}};
     for (int[] x : rows) due(39, "chosen(" + x[0] + ", " + x[1] + ")", r.chosen(x[0], x[1]), x[2]);
-    due(39, "the key is none, so is the fourth's answer", r.chosen(1, -1), 1);
+    due(39, "without a key none are right, the fourth's answer of no box too", r.chosen(1, -1), 0);
     form("size 17 17; box 2 2; one 2 2, 6 2, 10 2 key a b; one 2 8, 6 8, 10 8 key a;");
     laySheet(3, 1);
     due(39, "as the key, but double", r.chosen(0, -1), 0);
@@ -1083,6 +1083,21 @@ public final class PromiseTest {
     // points 3 4 3 3: order 1 0 | 2 3
     due(41, "of like ones", r.telling(1), 0);
     due(41, "of like ones", r.telling(0), 1);
+    tellingWithoutKey();
+  }
+
+  private static void tellingWithoutKey() {
+    r = new SheetReader();
+    form("size 17 17; box 2 2; one 2 2, 6 2, 10 2 key b; many 2 8, 6 8, 10 8;");
+    laySheet(2, 0);
+    laySheet(2, 0);
+    laySheet(1, 1);
+    laySheet(1, 3);
+    // points 1 1 0 0: the two ahead have no answer without a key, the two behind have one
+    due(41, "with a key", r.telling(0), 2);
+    due(41, "without a key none are right", r.telling(1), 0);
+    due(39, "with a key", r.chosen(0, -1), 2);
+    due(39, "without a key none are right", r.chosen(1, -1), 0);
   }
 
   private static void pointsAndTake() {

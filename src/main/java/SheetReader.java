@@ -1641,8 +1641,10 @@ public final class SheetReader {
             return place;
         }
 
+        /** Without a key none are right: an answer of no box is not a key of none. */
         boolean isRight(Form form, int s, int q) {
-            return ((doubtful[s] | doubled[s]) >> q & 1) == 0 && answer(s, q) == form.keys[q];
+            int key = form.keys[q];
+            return key != 0 && answer(s, q) == key && ((doubtful[s] | doubled[s]) >> q & 1) == 0;
         }
 
         int rightOnes(Form form, int q) {
