@@ -296,6 +296,24 @@ public final class FormEdges extends Sentences {
     formIs(UNITS + "many 0 0,1 0,2 0,3 0,4 0,5 0,6 0;", -3029 - UNITS.length());
   }
 
+  @Says(words = "BOXES 6 at most in one")
+  static void seventyTwoBoxesInAll() {
+    String text = largest("one", "key f");
+    due("as long as it is", text.length(), 400);
+    formIs(text, 12);
+    due("boxes", r.count(3), 72);
+    for (int q = 0; q < 12; q++) {
+      due("boxes of " + q, r.question(q, 1), 6);
+      due("key of " + q, r.question(q, 2), 32);
+      due("x of its last", r.question(q, 15), (6 * q + 5) % 9);
+      due("y of its last", r.question(q, 25), (6 * q + 5) / 9);
+    }
+    formIs(largest("many", ""), 12);
+    due("boxes", r.count(3), 72);
+    due("the same again", form(largest("many", "")), 12);
+    due("boxes", r.count(3), 72);
+  }
+
   @Says(words = "called a to f as they stand")
   static void boxesCalledAToF() {
     String six = UNITS + "many 0 0,1 0,2 0,3 0,4 0,5 0 key ";
@@ -365,11 +383,13 @@ public final class FormEdges extends Sentences {
     }
     behindHead("one 0 0 worth 100;", 2, 14, "one 0 0 worth 999;", 2, 14, "one 0 0 worth;", 1, 13, "one 0 0 key;", 1, 11);
     behindHead("one 0 0 worth 5 key a;", 1, 16, "one 0 0 worth 5 worth 5;", 1, 16, "one 0 0 key a key a;", 1, 14);
-    // a form that is told later has no key of one told before
+    // a form that is told later has no key of one told before, and no box
     r = new SheetReader();
     form(HEAD + "one 0 0 key a worth 7;");
     form(HEAD + "one 0 0 key a worth 7;");
     due("one without", form(HEAD + "one 0 0;"), 1);
+    due("boxes", r.question(0, 1), 1);
+    due("boxes in all", r.count(3), 1);
     due("key", r.question(0, 2), 0);
     due("worth", r.question(0, 3), 1);
   }
@@ -428,6 +448,12 @@ public final class FormEdges extends Sentences {
       behindHead("one 0 0" + (char) sign + ";", 1, 7, (char) sign + "one 0 0;", 1, 0);
     }
     formIs("box 2 3;size 9 8;", -1000);
+    // words as long as those that can stand there, one letter of them another
+    for (String word : new String[] {"tize", "saze", "sise", "sizi"}) formIs(word + " 9 8;", -1000);
+    for (String word : new String[] {"fox", "bax", "boy"}) formIs("size 9 8;" + word + " 2 3;", -1009);
+    for (String word : new String[] {"ene", "ode", "ona", "lany", "mony", "maly", "mana"}) behindHead(word + " 0 0;", 1, 0);
+    for (String word : new String[] {"ley", "kay", "kex"}) behindHead("one 0 0 " + word + " a;", 1, 8);
+    for (String word : new String[] {"forth", "warth", "wosth", "worsh", "worte"}) behindHead("one 0 0 " + word + " 5;", 1, 8);
     formIs("size 9 8;size 9 8;", -1009);
     formIs("size 9 8;one 0 0;", -1009);
     formIs("size nine 8;", -1005);

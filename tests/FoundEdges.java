@@ -281,6 +281,8 @@ public final class FoundEdges extends Sentences {
   static void turnsTheSameWay() {
     fourDots(1, 1, 21, 1, 1, 21, 12, 11);
     due("just turning at 3", r.shape(0), 1);
+    fourDots(1, 1, 21, 1, 2, 21, 3, 20);
+    due("turning at 3 by the least", r.shape(0), 1);
     fourDots(1, 1, 21, 1, 1, 21, 11, 11);
     due("straight on at 3", r.shape(0), 0);
     fourDots(1, 1, 21, 1, 1, 21, 10, 11);
@@ -315,6 +317,16 @@ public final class FoundEdges extends Sentences {
     due("a half of -1", r.shape(1), 0);
     fourDots(0, 0, 23, 0, 0, 23, 23, 23);
     due("the whole", r.shape(1), 529);
+    // of 2, 3, 4, 5 dots: the middles 0 (3/2, 0), 1 (21, 0), 2 (3/2, 21), 3 (20, 21)
+    r.blank(24, 24);
+    r.fill(1, 0, 2, 1, 9);
+    r.fill(20, 0, 3, 1, 9);
+    r.fill(0, 21, 4, 1, 9);
+    r.fill(18, 21, 5, 1, 9);
+    due("middles of unlike sizes", r.shape(1), 399);
+    // 3 is (20, 127/6) then: the sum is 444.5 + 388.25 - 31.5
+    r.fill(20, 22, 1, 1, 9);
+    due("400.625", r.shape(1), 400);
   }
 
   @Says(promise = 24, words = "2: 0 if 0 and 1 are as low, 1 if 1 is lower (its y greater), 2 if it is higher")
@@ -326,6 +338,12 @@ public final class FoundEdges extends Sentences {
     fourDots(1, 5, 20, 4, 1, 20, 20, 20);
     due("1 is higher", r.shape(2), 2);
     // by fractions: 1 is (20, 5), then (61/3, 16/3); 0 is (1, 5), then (4/3, 16/3), then (5/4, 11/2)
+    fourDots(1, 5, 20, 5, 1, 20, 20, 20);
+    r.fill(21, 5, 1, 1, 9);
+    due("as low, of unlike sizes", r.shape(2), 0);
+    r.fill(2, 5, 1, 1, 9);
+    r.fill(3, 5, 1, 1, 9);
+    due("as low, of 3 and 2", r.shape(2), 0);
     fourDots(1, 5, 20, 5, 1, 20, 20, 20);
     r.fill(20, 6, 1, 1, 9);
     r.fill(21, 5, 1, 1, 9);
@@ -445,6 +463,33 @@ public final class FoundEdges extends Sentences {
     // 36 units on few dots: each unit counts; of each side unit 0 lies on 0, 1 and 2 on 1, 3 on 2, 4 and 5 on 3
     form("size 40 40;box 6 6;one 0 0, 20 20;");
     due("the corner once, (1, 1) by 2 times 2 units", r.dark(0, 0), 9 + 4 * 7);
+  }
+
+  @Says(words = "DARK of a BOX: the sum of DARKNESS of the DOTS of the middles of its UNITS (UNIT (i, j): the point (i + 1/2, j + 1/2))")
+  static void boxesBetweenMarksAskew() {
+    int[][] corners = {{2, 1}, {21, 4}, {1, 19}, {19, 22}};
+    int[][] dots = new int[24][24];
+    for (int n = 0; n < 576; n++) dots[n / 24][n % 24] = (2 * (n % 24) + 3 * (n / 24) + n % 24 * (n / 24)) % 5;
+    for (int[] c : corners) dots[c[1]][c[0]] = 9;
+    r.set(1, 1);
+    r.set(2, 1);
+    for (int y = 0; y < 24; y++) {
+      StringBuilder digits = new StringBuilder();
+      for (int d : dots[y]) digits.append(d);
+      due("row(" + y + ")", row(y, digits.toString()), true);
+    }
+    due("marked", r.marked(), 1);
+    int[][] places = {{0, 0}, {4, 7}, {3, 3}, {0, 7}, {4, 0}};
+    form("size 7 9;box 3 2;one 0 0,4 7,3 3,0 7,4 0;");
+    for (int b = 0; b < 5; b++) {
+      int sum = 0;
+      for (int n = 0; n < 6; n++) {
+        int i = 2 * (places[b][0] + n % 3) + 1;
+        int j = 2 * (places[b][1] + n / 3) + 1;
+        sum += dots[between(corners, 7, 9, i, j, 1)][between(corners, 7, 9, i, j, 0)];
+      }
+      due("dark(0, " + b + ")", r.dark(0, b), sum);
+    }
   }
 
   @Says(words = "PAPER: the least DARK of all BOXES")
@@ -934,6 +979,40 @@ public final class FoundEdges extends Sentences {
     r.print(9);
     for (int[] o : none) due("steady(" + o[0] + ", " + o[1] + ")", r.steady(o[0], o[1]), -1);
     for (int far : FAR) due("by " + far, r.steady(far, 0) + r.steady(0, far), -2);
+  }
+
+  @Says(words = {"QUESTIONS 12 at most", "BOXES 6 at most in one"})
+  static void judgedOfSeventyTwoBoxes() {
+    r.blank(40, 40);
+    for (int k = 0; k < 4; k++) r.corner(k, k % 2 == 0 ? 1 : 38, k / 2 == 0 ? 1 : 38);
+    int[][] corners = {{1, 1}, {38, 1}, {1, 38}, {38, 38}};
+    due("form", form(largest("one", "key f")), 12);
+    for (int q = 0; q < 12; q++) r.tick(q, 1 << q % 6);
+    due("print", r.print(9), 36 + 12);
+    for (int q = 0; q < 12; q++) judgedIs(q, 1 << q % 6, 0, 0, 9, q % 6 == 5 ? 1 : 0);
+    int[] sheet = {2, 0, 0, 0, 0};
+    for (int what = 0; what < 5; what++) due("sheet(" + what + ")", r.sheet(what), sheet[what]);
+    apartIs(9, 12, 0);
+    due("unlike", r.unlike(), 0);
+    due("up", r.up(), 0);
+    r.set(5, 0);
+    due("all others are rubbed out", r.sheet(4), 60);
+    r.set(3, 10);
+    due("all are rubbed out", r.sheet(4), 72);
+    apartIs(9, 12, 12);
+    // all boxes are as dark as can be but the last one: 71 are ahead of it
+    r.set(3, 6);
+    for (int q = 0; q < 12; q++) r.tick(q, q < 11 ? 63 : 31);
+    due("print", r.print(9), 36 + 71);
+    apartIs(9, 71, 0);
+    due("the last one's rank", r.rank(11, 5), 72);
+    due("all others'", r.rank(11, 4), 1);
+    due("its dot", r.dot(between(corners, 12, 9, 2 * 8 + 1, 2 * 7 + 1, 0), between(corners, 12, 9, 2 * 8 + 1, 2 * 7 + 1, 1)), 0);
+    due("double ones", r.sheet(2), 12);
+    due("lay", r.lay(), 0);
+    due("the last answer", r.laid(0, 21), 31);
+    due("double ones", r.laid(0, 2), 4095);
+    due("chosen", r.chosen(11, 5) * 10 + r.chosen(10, 5), 1);
   }
 
   // ---- settings

@@ -104,6 +104,37 @@ public final class PileEdges extends Sentences {
     due("in all", r.count(10), 34 * 9 + 12);
   }
 
+  @Says(words = "by a MAP with those as MIDDLES, DOTS of the middles of all UNITS of all BOXES told as ANSWERS are INKED")
+  static void inkedBetweenCornersAskew() {
+    int[][] corners = {{2, 1}, {21, 4}, {1, 19}, {19, 22}};
+    for (int k = 0; k < 4; k++) due("corner " + k, r.corner(k, corners[k][0], corners[k][1]), true);
+    int[][] places = {{0, 0}, {4, 7}, {3, 3}, {0, 7}, {4, 0}};
+    form("size 7 9;box 3 2;many 0 0,4 7,3 3,0 7,4 0;");
+    for (int b = 0; b < 5; b++) {
+      int[][] want = new int[24][24];
+      for (int[] c : corners) {
+        for (int n = 0; n < 9; n++) want[c[1] - 1 + n / 3][c[0] - 1 + n % 3] = 9;
+      }
+      for (int n = 0; n < 6; n++) {
+        int i = 2 * (places[b][0] + n % 3) + 1;
+        int j = 2 * (places[b][1] + n / 3) + 1;
+        want[between(corners, 7, 9, i, j, 1)][between(corners, 7, 9, i, j, 0)] = 5;
+      }
+      int dark = 0;
+      int sum = 0;
+      for (int n = 0; n < 576; n++) {
+        dark += want[n / 24][n % 24] > 0 ? 1 : 0;
+        sum += want[n / 24][n % 24];
+      }
+      r.tick(0, 1 << b);
+      due("print", r.print(5), dark);
+      due("in all", r.count(10), sum);
+      for (int n = 0; n < 576; n++) {
+        if (want[n / 24][n % 24] == 5) due("(" + n % 24 + ", " + n / 24 + ")", r.dot(n % 24, n / 24), 5);
+      }
+    }
+  }
+
   @Says(promise = 34, words = "PRINTED by a DARKNESS: how many DOTS are not 0 then")
   static void cornersAtOnePlace() {
     form("size 17 17; box 2 2; many 2 2, 6 2;");
@@ -546,8 +577,25 @@ public final class PileEdges extends Sentences {
     int[] left = {1, 2, 3, 4, 5, 6, 8, 9, 10, 11, 12, 13, 14};
     for (int s = 0; s < 13; s++) due("answer of " + s, r.laid(s, 10), left[s]);
     due("no more", r.laid(13, 10), MIN);
-    due("points of the first", r.laid(0, 0), 1);
-    due("points of the second", r.laid(1, 0), 0);
+  }
+
+  @Says(promise = 43, words = "The sheet s of THE PILE is taken away")
+  static void nothingIsLeftOfATakenOne() {
+    form("size 17 17;box 1 1;one 2 2,4 2 key a;one 6 2;");
+    r.set(3, 18);
+    due("a doubtful one", laySheet(1, 0), 0);
+    due("doubtful", r.laid(0, 1), 1);
+    due("take", r.take(0), 0);
+    r.set(3, 6);
+    due("one in its place", laySheet(1, 0), 0);
+    due("doubtful", r.laid(0, 1), 0);
+    due("points", r.laid(0, 0), 1);
+    due("a double one", laySheet(3, 0), 1);
+    due("double", r.laid(1, 2), 1);
+    due("take", r.take(1), 1);
+    due("one in its place", laySheet(2, 0), 1);
+    due("double", r.laid(1, 2), 0);
+    due("answer", r.laid(1, 10), 2);
   }
 
   @Says(promise = 43, words = "(those behind it have a number less)")

@@ -379,6 +379,11 @@ public final class ScanEdges extends Sentences {
     rowIs(7, "0000000012");
     due("what lies here alone", r.copy(9, 7, 40, 40, 0, 5), 1);
     rowIs(5, "2000000000");
+    r.fill(0, 4, 10, 2, 9);
+    due("what lies there alone, nothing behind it", r.copy(9, 6, 40, 40, 0, 4), 2);
+    rowIs(4, "0999999999");
+    rowIs(5, "2999999999");
+    r.fill(0, 4, 10, 2, 0);
     due("no dot of the next row", r.copy(7, 0, 5, 1, 2, 3), 3);
     rowIs(3, "0089900000");
     rowIs(4, "0000000000");
@@ -650,6 +655,14 @@ public final class ScanEdges extends Sentences {
     r.fill(0, 0, 1, 1, 4);
     r.fill(0, 7, 1, 1, 5);
     due("2 to 4 and 5 to 7", r.level(), 5);
+    // a long tail: 57 of 1, 2 to 8 once each: by 2 1596 squared by 57 times 7, by 4 1460 squared by 59 times 5
+    r.fill(0, 0, 8, 8, 1);
+    row(0, "12345678");
+    due("a long tail", r.level(), 4);
+    r.fill(0, 0, 8, 4, 2);
+    r.fill(0, 4, 8, 4, 7);
+    r.fill(0, 0, 1, 1, 4);
+    r.fill(0, 7, 1, 1, 5);
     // by the level that is set nothing changes
     r.set(0, 9);
     due("by LEVEL 9", r.level(), 5);

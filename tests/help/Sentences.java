@@ -126,6 +126,23 @@ abstract class Sentences {
     }
   }
 
+  /** Where the point (i / 2, j / 2) of a form of u by v lies between four dots: 0 for x, 1 for y. */
+  static int between(int[][] corners, int u, int v, int i, int j, int side) {
+    int[] weights = {(2 * u - i) * (2 * v - j), i * (2 * v - j), (2 * u - i) * j, i * j};
+    int sum = 0;
+    for (int k = 0; k < 4; k++) sum += weights[k] * corners[k][side];
+    return (sum + 2 * u * v) / (4 * u * v);
+  }
+
+  /** The largest form: 12 questions with 6 boxes each, box n of all 72 at (n % 9, n / 9); told with as few blanks as can be. */
+  static String largest(String kind, String behind) {
+    StringBuilder text = new StringBuilder("size12 9;box1 1;");
+    for (int n = 0; n < 72; n++) {
+      text.append(n % 6 == 0 ? kind : ",").append(n % 9).append(' ').append(n / 9).append(n % 6 == 5 ? behind + ";" : "");
+    }
+    return text.toString();
+  }
+
   /** Takes a mark away, so that the scan is not marked; nothing else of it changes. */
   static void unmark() {
     r.fill(2, 2, 3, 3, 0);
