@@ -1,14 +1,5 @@
 /** For each promise runs of calls with the answers that the document asks for, worked out by hand. */
-public final class PromiseTest {
-  private static final int MIN = Integer.MIN_VALUE;
-  /** In a scan of 24 by 24 with the corners as at first, unit (i, j) lies on the dot (4 + i, 4 + j). */
-  private static final String PLAIN =
-      "size 17 17; box 2 2; one 2 2, 6 2, 10 2 key b; many 2 8, 6 8, 10 8 key a c worth 2;";
-
-  private static int wrong = 0;
-  private static int asked = 0;
-  private static SheetReader r;
-
+public final class PromiseTest extends Sentences {
   public static void main(String[] args) {
     newObject();
     feed();
@@ -44,59 +35,16 @@ public final class PromiseTest {
     pointsAndTake();
     level();
     refusalsFirst();
-    System.out.println(asked + " answers asked, " + wrong + " not as due");
-    if (wrong != 0 || asked == 0) System.exit(1);
+    end();
   }
 
   private static void due(int promise, String call, long got, long want) {
-    asked++;
-    if (got != want) {
-      wrong++;
-      System.out.println("promise " + promise + ": " + call + " answered " + got + ", due is " + want);
-    }
+    sentence = "promise " + promise;
+    due(call, got, want);
   }
 
   private static void due(int promise, String call, boolean got, boolean want) {
     due(promise, call, got ? 1 : 0, want ? 1 : 0);
-  }
-
-  private static void tell(String text) {
-    StringBuilder all = new StringBuilder(text);
-    while (all.length() % 20 != 0) all.append('~');
-    for (int at = 0; at < all.length(); at += 20) {
-      int[] five = new int[5];
-      for (int i = 0; i < 20; i++) five[i / 4] = five[i / 4] << 8 | all.charAt(at + i);
-      r.feed(five[0], five[1], five[2], five[3], five[4]);
-    }
-  }
-
-  private static int form(String text) {
-    tell(text);
-    return r.form(text.length());
-  }
-
-  private static boolean row(int y, String digits) {
-    tell(digits);
-    return r.row(y);
-  }
-
-  private static String digits(char c, int n) {
-    return String.valueOf(c).repeat(n);
-  }
-
-  /** A new reader with a form and its marks printed, no box ticked. */
-  private static void printed(String text) {
-    r = new SheetReader();
-    due(3, "form(" + text + ")", form(text) >= 0, true);
-    r.print(9);
-  }
-
-  /** Makes box (x, y) of a form with boxes of 2 by 2 so dark in all: four dots, the sum told. */
-  private static void ink(int x, int y, int sum) {
-    for (int i = 0; i < 4; i++) {
-      int v = sum / 4 + (i < sum % 4 ? 1 : 0);
-      r.fill(4 + x + i % 2, 4 + y + i / 2, 1, 1, v);
-    }
   }
 
   private static void newObject() {

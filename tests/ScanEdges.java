@@ -77,6 +77,44 @@ public final class ScanEdges extends Sentences {
     due("dots stay", r.count(10), 270);
   }
 
+  @Says(promise = 7, words = "THE SCAN is w by h DOTS, all 0")
+  static void nothingIsLeftOfALargerScan() {
+    // all ways in which a scan comes to be another one, first on 40 by 40 dots of ink, then on a smaller one
+    for (int way = 0; way < 6; way++) {
+      r = new SheetReader();
+      plain(40, 40, 9);
+      r.keep(1);
+      change(way);
+      r.fill(0, 0, 40, 40, 9);
+      change(way);
+      due("blank", r.blank(9, 8), true);
+      due("all 0", r.count(10), 0);
+      r.fill(0, 7, 9, 1, 9);
+      r.keep(1);
+      change(way);
+      due("no more than its dots, by " + way, r.count(10), r.count(9) * 9L);
+      due("ink hangs together in it alone", r.blob(-1, 0), 1);
+      due("of as many dots", r.blob(0, 0), r.count(9));
+      due("nothing is a speck", r.clean(), 0);
+      due("level", r.level(), 1);
+      due("dots right of it are none", r.dot(r.count(0), 0), -1);
+      due("dots below it are none", r.dot(0, r.count(1)), -1);
+      r.shift(0, 1);
+      due("what comes in from above is 0", r.dot(0, 0), 0);
+    }
+  }
+
+  private static void change(int way) {
+    switch (way) {
+      case 0: r.turn(0); break;
+      case 1: r.turn(2); break;
+      case 2: r.shift(1, 0); break;
+      case 3: r.copy(0, 0, 1, 1, 1, 1); break;
+      case 4: r.stretch(); break;
+      default: r.back(1); break;
+    }
+  }
+
   @Says(promise = 7, words = "(corners told stay)")
   static void cornersStayByBlank() {
     form(PLAIN);
@@ -379,11 +417,13 @@ public final class ScanEdges extends Sentences {
     rowIs(7, "0000000012");
     due("what lies here alone", r.copy(9, 7, 40, 40, 0, 5), 1);
     rowIs(5, "2000000000");
-    r.fill(0, 4, 10, 2, 9);
+    r.fill(0, 4, 9, 4, 9);
     due("what lies there alone, nothing behind it", r.copy(9, 6, 40, 40, 0, 4), 2);
-    rowIs(4, "0999999999");
-    rowIs(5, "2999999999");
-    r.fill(0, 4, 10, 2, 0);
+    rowIs(4, "0999999990");
+    rowIs(5, "2999999990");
+    rowIs(6, "9999999990");
+    rowIs(7, "9999999992");
+    r.fill(0, 4, 10, 3, 0);
     due("no dot of the next row", r.copy(7, 0, 5, 1, 2, 3), 3);
     rowIs(3, "0089900000");
     rowIs(4, "0000000000");
@@ -476,6 +516,11 @@ public final class ScanEdges extends Sentences {
     r.fill(0, 0, 1, 1, 0);
     due("0 and 1", r.stretch(), 63);
     rowIs(0, "09999999");
+    plain(8, 8, 3);
+    r.fill(7, 7, 1, 1, 5);
+    due("3 and 5", r.stretch(), 64);
+    due("the first", r.dot(0, 0), 0);
+    due("the last", r.dot(7, 7), 9);
     plain(8, 8, 9);
     row(7, "99999998");
     due("one alone is the least", r.stretch(), 1);
@@ -519,6 +564,11 @@ public final class ScanEdges extends Sentences {
     // the last dot of a row and the first of the next one do not hang together
     due("four alone", r.clean(), 4);
     due("two stay", r.count(10), 18);
+    r.blank(8, 8);
+    int[][] corners = {{0, 0}, {7, 0}, {0, 7}, {7, 7}};
+    for (int[] c : corners) r.fill(c[0], c[1], 1, 1, 9);
+    due("in the corners", r.clean(), 4);
+    due("none stays", r.count(10), 0);
   }
 
   @Says(promise = 18, words = "Each DOT is the middle one, by DARKNESS (of two the lesser), of the 3 by 3 round it as far as they lie in THE SCAN (all by what was)")

@@ -18,7 +18,8 @@ abstract class Sentences {
       "size 17 17; box 2 2; one 2 2, 6 2, 10 2 key b; many 2 8, 6 8, 10 8 key a c worth 2;";
 
   static SheetReader r;
-  private static String sentence;
+  /** What is told with an answer that is not due. */
+  static String sentence;
   private static int asked;
   private static int wrong;
 
@@ -47,8 +48,13 @@ abstract class Sentences {
       }
       due("something is asked", asked > before, true);
     }
-    System.out.println(found + " sentences, " + asked + " answers asked, " + wrong + " not as due");
-    if (wrong != 0 || found == 0) System.exit(1);
+    System.out.print(found + " sentences, ");
+    end();
+  }
+
+  static void end() {
+    System.out.println(asked + " answers asked, " + wrong + " not as due");
+    if (wrong != 0 || asked == 0) System.exit(1);
   }
 
   static String inOneLine(String text) {
