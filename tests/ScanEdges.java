@@ -77,6 +77,41 @@ public final class ScanEdges extends Sentences {
     due("dots stay", r.count(10), 270);
   }
 
+  @Says(words = "(8 to 40 each;")
+  static void allThatChangesTheLargestAndTheLeastScan() {
+    for (int side : new int[] {40, 8}) {
+      int all = side * side;
+      plain(side, side, 3);
+      r.fill(side - 1, side - 1, 1, 1, 5);
+      due("stretch", r.stretch(), all);
+      due("the first dot", r.dot(0, 0), 0);
+      due("the last dot", r.dot(side - 1, side - 1), 9);
+      due("level", r.level(), 1);
+      due("turn(2)", r.turn(2), side);
+      due("the first dot", r.dot(0, 0), 9);
+      due("copy", r.copy(0, 0, 40, 40, side - 1, side - 1), 1);
+      due("the last dot", r.dot(side - 1, side - 1), 9);
+      due("clean", r.clean(), 2);
+      due("all 0", r.count(10), 0);
+      r.fill(0, 0, 40, 40, 7);
+      due("smooth", r.smooth(), 0);
+      r.fill(side - 2, side - 2, 2, 2, 9);
+      due("smooth: the one with 4 of 9 alone", r.smooth(), 1);
+      due("it", r.dot(side - 2, side - 2), 7);
+      due("the last dot, of four", r.dot(side - 1, side - 1), 9);
+      due("ink is one", r.blob(-1, 0), 1);
+      due("of all", r.blob(0, 0), all);
+      due("keep", r.keep(2), true);
+      due("shift", r.shift(1 - side, 1 - side), all);
+      due("what is left", r.dot(0, 0), 9);
+      due("in all", r.count(10), 9);
+      due("back", r.back(2), true);
+      due("in all", r.count(10), all * 7L + 3 * 2);
+      due("row", row(side - 1, "1".repeat(side)), true);
+      due("noise", r.noise(500) > 0, true);
+    }
+  }
+
   @Says(promise = 7, words = "THE SCAN is w by h DOTS, all 0")
   static void nothingIsLeftOfALargerScan() {
     // all ways in which a scan comes to be another one, first on 40 by 40 dots of ink, then on a smaller one
